@@ -1,0 +1,98 @@
+/** What the tests share: counting wrong answers, feeding a text, and all that can be seen of an object. */
+final class Check {
+    private final String name;
+    private int made;
+    private int wrong;
+
+    Check(String name) {
+        this.name = name;
+    }
+
+    void same(String what, long got, long want) {
+        made++;
+        if (got != want) {
+            wrong++;
+            if (wrong <= 40) {
+                System.out.println(name + ": " + what + " answered " + got + ", due is " + want);
+            }
+        }
+    }
+
+    void same(String what, String got, String want) {
+        made++;
+        if (!got.equals(want)) {
+            wrong++;
+            if (wrong <= 40) {
+                System.out.println(name + ": " + what + "\n  answered " + got + "\n  due is   " + want);
+            }
+        }
+    }
+
+    void holds(String what, boolean so) {
+        same(what, so ? 1 : 0, 1);
+    }
+
+    int wrong() {
+        return wrong;
+    }
+
+    void end() {
+        System.out.println(name + ": " + made + " looked at, " + wrong + " wrong");
+        if (wrong != 0 || made == 0) {
+            System.exit(1);
+        }
+    }
+
+    static void feed(WarmStones x, String text) {
+        for (int at = 0; at < text.length(); at += 8) {
+            int n = Math.min(8, text.length() - at);
+            long bytes = 0;
+            for (int k = 0; k < n; k++) {
+                bytes = bytes << 8 | text.charAt(at + k) & 255;
+            }
+            x.feed(n, bytes);
+        }
+    }
+
+    static int tell(WarmStones x, String text) {
+        feed(x, text);
+        return x.town();
+    }
+
+    static WarmStones told(String text) {
+        WarmStones x = new WarmStones();
+        int stones = tell(x, text);
+        if (stones < 0) {
+            throw new IllegalStateException("a test's own text has a fault: " + text);
+        }
+        return x;
+    }
+
+    static String seen(WarmStones x) {
+        StringBuilder all = new StringBuilder("told");
+        for (int what = 0; what <= 10; what++) {
+            all.append(' ').append(x.told(what));
+        }
+        all.append(" fault ").append(x.fault());
+        int seed = x.seed(0);
+        x.seed(seed);
+        all.append(" seed ").append(seed);
+        for (int b = 0; b < x.told(0); b++) {
+            all.append("; stone");
+            for (int what = 0; what <= 3; what++) {
+                all.append(' ').append(x.stone(b, what));
+            }
+        }
+        for (int p = 0; p < x.told(1); p++) {
+            all.append("; person");
+            for (int what = 0; what <= 6; what++) {
+                all.append(' ').append(x.person(p, what));
+            }
+            all.append(" owns");
+            for (int b = 0; b < x.told(0); b++) {
+                all.append(' ').append(x.owned(p, b));
+            }
+        }
+        return all.toString();
+    }
+}
