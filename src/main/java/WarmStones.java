@@ -654,10 +654,6 @@ public final class WarmStones {
         int minute;
         int seed;
 
-        Night() {
-            standAll();
-        }
-
         // THE SEED is no part of what a new town sets back.
         void begin(Town town) {
             for (int b = 0; b < MOST_STONES; b++) {
@@ -665,6 +661,7 @@ public final class WarmStones {
             }
             for (int p = 0; p < MOST_PERSONS; p++) {
                 warmth[p] = p < town.persons ? town.firstWarmth[p] : 0;
+                seat[p] = NONE;
                 cold[p] = 0;
                 stolen[p] = 0;
                 owed[p] = 0;
@@ -672,15 +669,8 @@ public final class WarmStones {
             for (int k = 0; k < owned.length; k++) {
                 owned[k] = 0;
             }
-            standAll();
             lost = 0;
             minute = 0;
-        }
-
-        private void standAll() {
-            for (int p = 0; p < MOST_PERSONS; p++) {
-                seat[p] = NONE;
-            }
         }
 
         void copyFrom(Night other) {
@@ -877,11 +867,16 @@ public final class WarmStones {
         }
     }
 
-    /** All orders in which a stone can be passed along; orders that begin alike share that beginning. */
+    /**
+     * The orders in which a stone can be passed along. A stone that begins warmer never ends colder (FLOW falls by at
+     * most 1 when HEAT rises by 1, so the warmer stone stays ahead, and its person too): with the same persons left, a
+     * beginning that leaves no more HEAT than an earlier one cannot end better, and is not followed.
+     */
     private static final class Passing {
         private final Sitting sitting = new Sitting();
         private final int[] order = new int[MOST_PASSED];
         private final int[] best = new int[MOST_PASSED];
+        private final int[] followed = new int[1 << MOST_PERSONS];
         private int stone;
         private int minutes;
         private int bestHeat;
@@ -889,7 +884,9 @@ public final class WarmStones {
         void search(Town town, Night night, int b, int set, int minutesEach) {
             stone = b;
             minutes = minutesEach;
-            bestHeat = NONE;
+            for (int left = 0; left < followed.length; left++) {
+                followed[left] = NONE;
+            }
             place(town, night, 0, set, night.heat[b]);
         }
 
@@ -902,8 +899,12 @@ public final class WarmStones {
 
         // Persons are tried by their numbers, so of like orders the first stays.
         private void place(Town town, Night night, int turn, int left, int heat) {
+            if (left < 0 || left >= followed.length || heat <= followed[left]) {
+                return;
+            }
+            followed[left] = heat;
             if (left == 0 || turn >= MOST_PASSED) {
-                weigh(heat);
+                keepBest(heat);
                 return;
             }
             for (int p = 0; p < town.persons; p++) {
@@ -923,11 +924,9 @@ public final class WarmStones {
             return sitting.heat;
         }
 
-        private void weigh(int heat) {
-            if (heat > bestHeat) {
-                bestHeat = heat;
-                System.arraycopy(order, 0, best, 0, MOST_PASSED);
-            }
+        private void keepBest(int heat) {
+            bestHeat = heat;
+            System.arraycopy(order, 0, best, 0, MOST_PASSED);
         }
     }
 

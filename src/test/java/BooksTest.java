@@ -137,6 +137,17 @@ final class BooksTest {
         x.go(9);
         x.goBack(1);
         C.same("the newer image", Check.seen(x), first);
+        WarmStones most = Check.told("fine 2;" + "stone 9 2 8;".repeat(9) + "person fat 9 9;".repeat(8));
+        for (int p = 0; p < 8; p++) {
+            most.sit(p, p + 1);
+            most.own(p, p + 1, p + 2);
+        }
+        most.go(5);
+        String before = Check.seen(most);
+        most.keep(1);
+        most.drift(50);
+        most.goBack(1);
+        C.same("a full town's image", Check.seen(most), before);
     }
 
     private static void imagesKeepJustThat() {

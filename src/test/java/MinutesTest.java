@@ -17,6 +17,7 @@ final class MinutesTest {
         fines();
         usedAndStolen();
         nothingIsLostButToFrost();
+        fullTown();
         goBounds();
         driftByHand();
         driftBounds();
@@ -205,6 +206,25 @@ final class MinutesTest {
         }
     }
 
+    private static void fullTown() {
+        WarmStones x = Check.told("frost 9 1;" + "stone 90 2 90;".repeat(9) + "person fat 90 90;".repeat(8));
+        for (int p = 0; p < 8; p++) {
+            C.same("full town: sit", x.sit(p, 8 - p), NONE);
+            x.own(p, 8 - p, p + 1);
+        }
+        C.same("full town: go", x.go(1), 255);
+        for (int p = 0; p < 8; p++) {
+            C.same("full town: warmth", x.person(p, 2), 89);
+            C.same("full town: owned", x.owned(p, 8 - p), p);
+            C.same("full town: heat", x.stone(8 - p, 2), 90);
+        }
+        C.same("full town: the empty stone", x.stone(0, 2), 45);
+        C.same("full town: lost", x.told(4), 8 + 45);
+        C.same("full town: cold", x.told(9), 8);
+        C.same("full town: all", x.told(10), 17 * 90 - 8 - 45);
+        C.same("full town: drift", x.drift(1) & ~255, 0);
+    }
+
     private static void goBounds() {
         WarmStones x = Check.told("stone 9 9 9;person plain 10 7;");
         String before = Check.seen(x);
@@ -244,6 +264,9 @@ final class MinutesTest {
         z.drift(1);
         C.same("it goes back to its own", z.person(0, 3), 0);
         C.same("the seed", z.seed(0), 1406932606);
+        WarmStones five = Check.told("stone 9 9 9;stone 9 9 9;stone 9 9 9;stone 9 9 9;person plain 10 7;");
+        five.drift(1);
+        C.same("four stones: a draw of five", five.person(0, 3), 3);
         WarmStones w = Check.told("person plain 10 7;");
         w.drift(1);
         C.same("no stones: a draw of one all the same", w.seed(0), 1406932606);

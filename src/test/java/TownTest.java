@@ -85,6 +85,19 @@ final class TownTest {
         C.same("town: untold A", x.told(5), 3);
         C.same("town: untold B", x.told(6), 1);
         C.same("town: untold C", x.told(7), 0);
+        String frosty = "frost 7 5;fine 9;";
+        Check.tell(x, frosty);
+        Check.tell(x, frosty);
+        Check.tell(x, "stone 1 2 0;");
+        C.same("town: untold again: A", x.told(5), 3);
+        C.same("town: untold again: B", x.told(6), 1);
+        C.same("town: untold again: C", x.told(7), 0);
+        Check.tell(x, frosty + "bench");
+        Check.tell(x, "stone 1 2 0;");
+        C.same("town: of a faulty text nothing stays: A", x.told(5), 3);
+        C.same("town: of a faulty text nothing stays: B", x.told(6), 1);
+        C.same("town: of a faulty text nothing stays: C", x.told(7), 0);
+        C.same("town: of a faulty text nothing stays: frost", Check.tell(x, frosty), 0);
     }
 
     private static void townStartsAnew() {
@@ -165,6 +178,10 @@ final class TownTest {
         bad("bench 1;", 1, 0);
         bad("  sto", 1, 2);
         bad("stones 1 2 0;", 1, 0);
+        bad("stonez 1 2 0;", 1, 0);
+        bad("stonea 1 2 0;", 1, 0);
+        bad("atone 1 2 0;", 1, 0);
+        bad("stond 1 2 0;", 1, 0);
         bad("Stone 1 2 0;", 1, 0);
         bad("stone", 1, 5);
         bad("stone  ", 1, 7);
@@ -264,6 +281,19 @@ final class TownTest {
         bad("person thin 99999 1;", 1, 7);
         bad("stone 12345;", 2, 6);
         C.holds("a text of 400 bytes", lastByte());
+        bad("a".repeat(400), 1, 0);
+        shorterThanTheLast();
+    }
+
+    private static void shorterThanTheLast() {
+        WarmStones x = new WarmStones();
+        String[] texts = {"stonee", "stone", "stone 12 3 4;", "stone 1", "stone 1 2 0;", "stone 1 2 0", "fine 1;   ;", "fine 1; "};
+        int[] due = {-11, -11, 1, -11, 1, -11, -11, 0};
+        int[] at = {0, 5, NONE, 7, NONE, 11, 10, NONE};
+        for (int k = 0; k < texts.length; k++) {
+            C.same("behind a longer text: " + texts[k], Check.tell(x, texts[k]), due[k]);
+            C.same("behind a longer text: " + texts[k], x.fault(), at[k]);
+        }
     }
 
     private static boolean lastByte() {

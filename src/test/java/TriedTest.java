@@ -42,6 +42,10 @@ final class TriedTest {
         WarmStones four = Check.told("frost 9 0;stone 99 2 9;stone 50 2 50;stone 50 2 50;stone 50 2 50;"
             + "person plain 50 50;person plain 50 50;person drain 9 0;person plain 50 50;");
         seated(four, 2, 0, 9, 1, 2, 0, 3);
+        WarmStones most = Check.told("frost 9 0;" + "stone 99 2 0;".repeat(5) + "stone 50 2 50;".repeat(4) + "person plain 50 50;".repeat(4));
+        seated(most, 60, 0, 50, 5, 6, 7, 8);
+        WarmStones allCold = Check.told("frost 0 0;" + "person plain 1 9999;".repeat(4));
+        seated(allCold, 60, 240, 1, NONE, NONE, NONE, NONE);
     }
 
     private static void seatingLeastWarmth() {
@@ -124,6 +128,9 @@ final class TriedTest {
         WarmStones z = Check.told("frost 99 0;stone 1000 2 5;person drain 150 0;person drain 90 0;");
         // First 1: 5, 47 (42 given), then 0 of 51: 49. First 0: 77, then 1 of none.
         along(z, 0, 0b11, 1, 77, 0, 1);
+        WarmStones none = Check.told("frost 9 0;stone 100 2 8;person miser 16 0;person plain 2 0;");
+        // Whoever comes second has nothing by then and takes 1 of the 8 (the plain one at once takes none).
+        along(none, 0, 0b11, 2, 7, 0, 1);
     }
 
     private static void passedFirstOfLike() {
@@ -173,6 +180,7 @@ final class TriedTest {
         for (int p : new int[] {-1, 5, Integer.MIN_VALUE, Integer.MAX_VALUE}) {
             C.same("gift p " + p, x.gift(p, 0), UNKNOWN);
         }
+        C.same("gift of seven", Check.told("person fat 9 0;".repeat(8)).gift(7, 1), 63);
         C.same("gift of nobody", Check.told("person fat 9 0;").gift(0, 1), 0);
     }
 
@@ -194,6 +202,7 @@ final class TriedTest {
         x.sit(0, 0);
         x.sit(1, 1);
         C.same("whoever sits where now", x.palms(1, 2, 160, 15, NONE), 2);
+        C.same("palms of one minute", x.palms(1, 1, 100, 0, NONE), 2);
         C.same("palms of 60 minutes", x.palms(1, 60, 0, 9999, 60), 101);
         C.same("palms: nobody", Check.told("stone 9 9 9;").palms(0, 5, 0, 9999, NONE), 0);
     }
