@@ -241,7 +241,7 @@ public final class WarmStones {
         if (!town.hasStone(b)) {
             return UNKNOWN;
         }
-        if (!within(m, 1, MOST_TRIED) || !within(v, 0, LARGEST) || !within(e, 0, LARGEST) || i < NONE) {
+        if (!within(m, 1, MOST_TRIED) || !within(v, 0, LARGEST) || !within(e, 0, LARGEST)) {
             return OUTSIDE;
         }
         int found = 0;

@@ -571,7 +571,7 @@ final class Model {
         if (!isStone(b)) {
             return UNKNOWN;
         }
-        if (!in(m, 1, 60) || !in(v, 0, 9999) || !in(e, 0, 9999) || i < -1) {
+        if (!in(m, 1, 60) || !in(v, 0, 9999) || !in(e, 0, 9999)) {
             return OUTSIDE;
         }
         List<Integer> fit = new ArrayList<>();
@@ -592,7 +592,7 @@ final class Model {
                 }
             }
         }
-        return i == NONE ? fit.size() : i < fit.size() ? fit.get((int) i) : NONE;
+        return i == NONE ? fit.size() : in(i, 0, fit.size() - 1) ? fit.get((int) i) : NONE;
     }
 
     private long safe() {

@@ -19,6 +19,7 @@ final class TriedTest {
         palms();
         palmsWithFrost();
         palmsRefusals();
+        palmsWithoutSuchPair();
         safe();
         nothingChanges();
         C.end();
@@ -229,8 +230,23 @@ final class TriedTest {
             C.same("palms v " + v, x.palms(0, 1, v, 0, NONE), OUTSIDE);
             C.same("palms e " + v, x.palms(0, 1, 0, v, NONE), OUTSIDE);
         }
-        C.same("palms i", x.palms(0, 1, 0, 0, -2), OUTSIDE);
-        C.same("palms i", x.palms(0, 1, 0, 0, Integer.MIN_VALUE), OUTSIDE);
+        for (int i : new int[] {-2, 0, Integer.MIN_VALUE, Integer.MAX_VALUE}) {
+            C.same("palms OUTSIDE for any i", x.palms(0, 0, 0, 0, i), OUTSIDE);
+        }
+    }
+
+    // No bounds are told of i, so none is OUTSIDE: where there is no such PAIR, it is NONE.
+    private static void palmsWithoutSuchPair() {
+        WarmStones x = Check.told("stone 10 2 0;person miser 9 0;");
+        C.same("palms: one fits", x.palms(0, 1, 0, 9999, NONE), 1);
+        C.same("palms: the 0th", x.palms(0, 1, 0, 9999, 0), 1);
+        C.same("palms: none fits", x.palms(0, 1, 9, 0, NONE), 0);
+        for (int i : new int[] {-2, -3, -100, UNKNOWN, OUTSIDE, Integer.MIN_VALUE, 1, 100, Integer.MAX_VALUE}) {
+            C.same("palms: one fits, i " + i, x.palms(0, 1, 0, 9999, i), NONE);
+            C.same("palms: none fits, i " + i, x.palms(0, 1, 9, 0, i), NONE);
+        }
+        C.same("palms: none fits, i 0", x.palms(0, 1, 9, 0, 0), NONE);
+        C.same("palms: nobody, i -2", Check.told("stone 9 9 9;").palms(0, 5, 0, 9999, -2), NONE);
     }
 
     private static void safe() {
