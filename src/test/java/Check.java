@@ -32,6 +32,23 @@ final class Check {
         same(what, so ? 1 : 0, 1);
     }
 
+    /** A text without a fault: the town that it tells. */
+    WarmStones good(String text, int stones, int persons) {
+        WarmStones x = new WarmStones();
+        same("stones of " + text, tell(x, text), stones);
+        same("fault of " + text, x.fault(), WarmStones.NONE);
+        same("persons of " + text, x.told(1), persons);
+        return x;
+    }
+
+    /** A text with this fault, at this byte. */
+    void bad(String text, int fault, int at) {
+        WarmStones x = new WarmStones();
+        same("fault of " + text, tell(x, text), -10 - fault);
+        same("fault's byte in " + text, x.fault(), at);
+        same("text behind the fault in " + text, x.told(2), 0);
+    }
+
     int wrong() {
         return wrong;
     }

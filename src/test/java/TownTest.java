@@ -147,141 +147,127 @@ final class TownTest {
     }
 
     private static void goodTexts() {
-        good("", 0, 0);
-        good("    ", 0, 0);
-        good("stone 1 2 0;", 1, 0);
-        good("stone 9999 999 9999;", 1, 0);
-        good("stone1 2 0;", 1, 0);
-        good("  stone  0001   002 0  ;  ", 1, 0);
-        good("person plain 0 0;person fat 9999 9999;person miser 1 1;person drain 1 1;person beggar 1 1;", 0, 5);
-        good("person plain5 6;", 0, 1);
-        good("frost 0 0;fine 0;", 0, 0);
-        good("fine99;frost99 99;stone 5 5 5;", 1, 0);
-        good("stone 1 2 0;".repeat(9) + "person fat 1 1;".repeat(8), 9, 8);
-    }
-
-    private static void good(String text, int stones, int persons) {
-        WarmStones x = new WarmStones();
-        C.same("stones of " + text, Check.tell(x, text), stones);
-        C.same("fault of " + text, x.fault(), NONE);
-        C.same("persons of " + text, x.told(1), persons);
-    }
-
-    private static void bad(String text, int fault, int at) {
-        WarmStones x = new WarmStones();
-        C.same("fault of " + text, Check.tell(x, text), -10 - fault);
-        C.same("fault's byte in " + text, x.fault(), at);
-        C.same("text behind the fault in " + text, x.told(2), 0);
+        C.good("", 0, 0);
+        C.good("    ", 0, 0);
+        C.good("stone 1 2 0;", 1, 0);
+        C.good("stone 9999 999 9999;", 1, 0);
+        C.good("stone1 2 0;", 1, 0);
+        C.good("  stone  0001   002 0  ;  ", 1, 0);
+        C.good("person plain 0 0;person fat 9999 9999;person miser 1 1;person drain 1 1;person beggar 1 1;", 0, 5);
+        C.good("person plain5 6;", 0, 1);
+        C.good("frost 0 0;fine 0;", 0, 0);
+        C.good("fine99;frost99 99;stone 5 5 5;", 1, 0);
+        C.good("stone 1 2 0;".repeat(9) + "person fat 1 1;".repeat(8), 9, 8);
     }
 
     private static void misplaced() {
-        bad("bench 1;", 1, 0);
-        bad("  sto", 1, 2);
-        bad("stones 1 2 0;", 1, 0);
-        bad("stonez 1 2 0;", 1, 0);
-        bad("stonea 1 2 0;", 1, 0);
-        bad("atone 1 2 0;", 1, 0);
-        bad("stond 1 2 0;", 1, 0);
-        bad("Stone 1 2 0;", 1, 0);
-        bad("stone", 1, 5);
-        bad("stone  ", 1, 7);
-        bad("stone 1", 1, 7);
-        bad("stone 1 2", 1, 9);
-        bad("stone 1 2 0", 1, 11);
-        bad("stone 1 2 0 ", 1, 12);
-        bad("stone 1 2 ;", 1, 10);
-        bad("stone;", 1, 5);
-        bad("stone x 2 0;", 1, 6);
-        bad("stone 1 2 0 0;", 1, 12);
-        bad("stone 1 2 0 00000;", 1, 12);
-        bad("stone 1a 2 0;", 1, 7);
-        bad("stone -1 2 0;", 1, 6);
-        bad("stone 1,2 0;", 1, 7);
-        bad("stone 1 2 0;;", 1, 12);
-        bad("stone 1 2 0;5", 1, 12);
-        bad("stone 1 2 0 stone 1 2 0;", 1, 12);
-        bad("sto ne 1 2 0;", 1, 0);
-        bad("person 1 1;", 1, 7);
-        bad("person", 1, 6);
-        bad("person fat", 1, 10);
-        bad("person fat 1;", 1, 12);
-        bad("person fatt 1 1;", 1, 7);
-        bad("person fat drain 1 1;", 1, 11);
-        bad("person stone 1 1;", 1, 7);
-        bad("personfat 1 1;", 1, 0);
-        bad("person pla in 1 1;", 1, 7);
-        bad("plain 1 1;", 1, 0);
-        bad("frost;", 1, 5);
-        bad("frost 1;", 1, 7);
-        bad("frost 1 1 1;", 1, 10);
-        bad("fine;", 1, 4);
-        bad("fine 1 1;", 1, 7);
-        bad("fine 1", 1, 6);
-        bad("fine 1;\n", 1, 7);
-        bad("fine\t1;", 1, 4);
-        bad("fine 1" + (char) 0 + ";", 1, 6);
-        bad("fine 1;" + (char) 255, 1, 7);
-        bad("fine 1;" + (char) 160, 1, 7);
-        bad("fine 1;" + (char) ('s' + 128), 1, 7);
-        bad(";", 1, 0);
-        bad("fine 1;`", 1, 7);
-        bad("fine 1;{", 1, 7);
-        bad("fine /;", 1, 5);
-        bad("fine :;", 1, 5);
+        C.bad("bench 1;", 1, 0);
+        C.bad("  sto", 1, 2);
+        C.bad("stones 1 2 0;", 1, 0);
+        C.bad("stonez 1 2 0;", 1, 0);
+        C.bad("stonea 1 2 0;", 1, 0);
+        C.bad("atone 1 2 0;", 1, 0);
+        C.bad("stond 1 2 0;", 1, 0);
+        C.bad("Stone 1 2 0;", 1, 0);
+        C.bad("stone", 1, 5);
+        C.bad("stone  ", 1, 7);
+        C.bad("stone 1", 1, 7);
+        C.bad("stone 1 2", 1, 9);
+        C.bad("stone 1 2 0", 1, 11);
+        C.bad("stone 1 2 0 ", 1, 12);
+        C.bad("stone 1 2 ;", 1, 10);
+        C.bad("stone;", 1, 5);
+        C.bad("stone x 2 0;", 1, 6);
+        C.bad("stone 1 2 0 0;", 1, 12);
+        C.bad("stone 1 2 0 00000;", 1, 12);
+        C.bad("stone 1a 2 0;", 1, 7);
+        C.bad("stone -1 2 0;", 1, 6);
+        C.bad("stone 1,2 0;", 1, 7);
+        C.bad("stone 1 2 0;;", 1, 12);
+        C.bad("stone 1 2 0;5", 1, 12);
+        C.bad("stone 1 2 0 stone 1 2 0;", 1, 12);
+        C.bad("sto ne 1 2 0;", 1, 0);
+        C.bad("person 1 1;", 1, 7);
+        C.bad("person", 1, 6);
+        C.bad("person fat", 1, 10);
+        C.bad("person fat 1;", 1, 12);
+        C.bad("person fatt 1 1;", 1, 7);
+        C.bad("person fat drain 1 1;", 1, 11);
+        C.bad("person stone 1 1;", 1, 7);
+        C.bad("personfat 1 1;", 1, 0);
+        C.bad("person pla in 1 1;", 1, 7);
+        C.bad("plain 1 1;", 1, 0);
+        C.bad("frost;", 1, 5);
+        C.bad("frost 1;", 1, 7);
+        C.bad("frost 1 1 1;", 1, 10);
+        C.bad("fine;", 1, 4);
+        C.bad("fine 1 1;", 1, 7);
+        C.bad("fine 1", 1, 6);
+        C.bad("fine 1;\n", 1, 7);
+        C.bad("fine\t1;", 1, 4);
+        C.bad("fine 1" + (char) 0 + ";", 1, 6);
+        C.bad("fine 1;" + (char) 255, 1, 7);
+        C.bad("fine 1;" + (char) 160, 1, 7);
+        C.bad("fine 1;" + (char) ('s' + 128), 1, 7);
+        C.bad(";", 1, 0);
+        C.bad("fine 1;`", 1, 7);
+        C.bad("fine 1;{", 1, 7);
+        C.bad("fine /;", 1, 5);
+        C.bad("fine :;", 1, 5);
     }
 
     private static void outOfBounds() {
-        bad("stone 0 2 0;", 2, 6);
-        bad("stone 10000 2 0;", 2, 6);
-        bad("stone 00001 2 0;", 2, 6);
-        bad("stone 1 1 0;", 2, 8);
-        bad("stone 1 0 0;", 2, 8);
-        bad("stone 1 1000 0;", 2, 8);
-        bad("stone 1 00002 0;", 2, 8);
-        bad("person plain 10000 0;", 2, 13);
-        bad("person plain 0 10000;", 2, 15);
-        bad("person plain 00000 0;", 2, 13);
-        bad("frost 100 0;", 2, 6);
-        bad("frost 0 100;", 2, 8);
-        bad("fine 100;", 2, 5);
-        bad("fine 00000;", 2, 5);
-        bad("fine 4294967296;", 2, 5);
-        bad("fine 4294967296x;", 2, 5);
-        bad("fine " + "9".repeat(395), 2, 5);
-        bad("fine 1000000000000000000000000000000000000;", 2, 5);
+        C.bad("stone 0 2 0;", 2, 6);
+        C.bad("stone 10000 2 0;", 2, 6);
+        C.bad("stone 00001 2 0;", 2, 6);
+        C.bad("stone 1 1 0;", 2, 8);
+        C.bad("stone 1 0 0;", 2, 8);
+        C.bad("stone 1 1000 0;", 2, 8);
+        C.bad("stone 1 00002 0;", 2, 8);
+        C.bad("person plain 10000 0;", 2, 13);
+        C.bad("person plain 0 10000;", 2, 15);
+        C.bad("person plain 00000 0;", 2, 13);
+        C.bad("frost 100 0;", 2, 6);
+        C.bad("frost 0 100;", 2, 8);
+        C.bad("fine 100;", 2, 5);
+        C.bad("fine 00000;", 2, 5);
+        C.bad("fine 4294967296;", 2, 5);
+        C.bad("fine 4294967296x;", 2, 5);
+        C.bad("fine " + "9".repeat(395), 2, 5);
+        C.bad("fine 1000000000000000000000000000000000000;", 2, 5);
     }
 
     private static void tooMany() {
-        bad("stone 1 2 0;".repeat(9) + " stone 1 2 0;", 3, 109);
-        bad("stone 1 2 0;".repeat(9) + "stone;", 3, 108);
-        bad("stone 1 2 0;".repeat(9) + "stonee;", 1, 108);
-        bad("person fat 1 1;".repeat(8) + "person fat 1 1;", 3, 120);
-        bad("person fat 1 1;".repeat(8) + "person", 3, 120);
-        bad("frost 1 1;stone 1 2 0;frost 1 1;", 3, 22);
-        bad("fine 1;fine 1;", 3, 7);
-        bad("fine 0;  fine", 3, 9);
-        bad("frost 3 1;frost 3 1;", 3, 10);
+        C.bad("stone 1 2 0;".repeat(9) + " stone 1 2 0;", 3, 109);
+        C.bad("stone 1 2 0;".repeat(9) + "stone;", 3, 108);
+        C.bad("stone 1 2 0;".repeat(9) + "stonee;", 1, 108);
+        C.bad("person fat 1 1;".repeat(8) + "person fat 1 1;", 3, 120);
+        C.bad("person fat 1 1;".repeat(8) + "person", 3, 120);
+        C.bad("frost 1 1;stone 1 2 0;frost 1 1;", 3, 22);
+        C.bad("fine 1;fine 1;", 3, 7);
+        C.bad("fine 0;  fine", 3, 9);
+        C.bad("frost 3 1;frost 3 1;", 3, 10);
     }
 
     private static void aboveSize() {
-        bad("stone 1 2 2;", 4, 10);
-        bad("stone 9998 2 9999;", 4, 13);
-        bad("stone 9 2 0010;", 4, 10);
-        bad("stone 9 2 10000;", 2, 10);
-        bad("stone 1 2 2", 4, 10);
-        bad("stone 1 2 2 x", 4, 10);
+        C.bad("stone 1 2 2;", 4, 10);
+        C.bad("stone 9998 2 9999;", 4, 13);
+        C.bad("stone 9 2 0010;", 4, 10);
+        C.bad("stone 9 2 10000;", 2, 10);
+        C.bad("stone 1 2 2", 4, 10);
+        C.bad("stone 1 2 2 x", 4, 10);
     }
 
     private static void firstFaultCounts() {
-        bad("stone 0 1 99999;bench", 2, 6);
-        bad("stone 1 1 5;", 2, 8);
-        bad("stone 1 2 5;stone 0 2 0;", 4, 10);
-        bad("fine 1;fine 100;", 3, 7);
-        bad("fine 1 fine 1;", 1, 7);
-        bad("person thin 99999 1;", 1, 7);
-        bad("stone 12345;", 2, 6);
+        C.bad("stone 0 1 99999;bench", 2, 6);
+        C.bad("stone 1 1 5;", 2, 8);
+        C.bad("stone 1 2 5;stone 0 2 0;", 4, 10);
+        C.bad("fine 1;fine 100;", 3, 7);
+        C.bad("fine 1 fine 1;", 1, 7);
+        C.bad("person thin 99999 1;", 1, 7);
+        C.bad("stone 12345;", 2, 6);
         C.holds("a text of 400 bytes", lastByte());
-        bad("a".repeat(400), 1, 0);
+        C.bad("a".repeat(400), 1, 0);
         shorterThanTheLast();
     }
 
