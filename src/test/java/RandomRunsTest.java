@@ -125,41 +125,7 @@ final class RandomRunsTest {
         for (long one : g) {
             shown.append(' ').append(one);
         }
-        C.same(shown.toString(), call(name, g), model.call(name, g));
-    }
-
-    private static long call(String name, long[] g) {
-        int[] i = new int[5];
-        for (int k = 0; k < g.length; k++) {
-            i[k] = (int) g[k];
-        }
-        switch (name) {
-            case "feed": return x.feed(i[0], g[1]);
-            case "town": return x.town();
-            case "fault": return x.fault();
-            case "told": return x.told(i[0]);
-            case "stone": return x.stone(i[0], i[1]);
-            case "person": return x.person(i[0], i[1]);
-            case "owned": return x.owned(i[0], i[1]);
-            case "sit": return x.sit(i[0], i[1]);
-            case "go": return x.go(i[0]);
-            case "drift": return x.drift(i[0]);
-            case "own": return x.own(i[0], i[1], i[2]);
-            case "trade": return x.trade(i[0], i[1], i[2], i[3]);
-            case "forgive": return x.forgive(i[0]);
-            case "seating": return x.seating(i[0], i[1]);
-            case "passed": return x.passed(i[0], i[1], i[2], i[3]);
-            case "gift": return x.gift(i[0], i[1]);
-            case "palms": return x.palms(i[0], i[1], i[2], i[3], i[4]);
-            case "safe": return x.safe();
-            case "write": return x.write(i[0], i[1]);
-            case "tear": return x.tear();
-            case "judge": return x.judge();
-            case "seed": return x.seed(i[0]);
-            case "keep": return x.keep(i[0]);
-            case "goBack": return x.goBack(i[0]);
-            default: throw new IllegalStateException(name);
-        }
+        C.same(shown.toString(), Check.call(x, name, g), model.call(name, g));
     }
 
     private static long[] arguments(String name) {

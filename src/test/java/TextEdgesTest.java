@@ -29,6 +29,7 @@ final class TextEdgesTest {
         figures();
         numbersThatWrapAround();
         wordsAreLettersSideBySide();
+        wordsWithOneLetterChanged();
         blanksMayStandAnywhere();
         blanksNotWithin();
         wordsAndNumbersSideBySide();
@@ -353,6 +354,25 @@ final class TextEdgesTest {
         C.bad("person Fat 1 1;", 1, 7);
         C.bad("person faT 1 1;", 1, 7);
         C.bad("person f,at 1 1;", 1, 7);
+    }
+
+    private static void wordsWithOneLetterChanged() {
+        for (String word : new String[] {"stone", "person", "frost", "fine"}) {
+            for (int at = 0; at < word.length(); at++) {
+                C.bad(changed(word, at, 1) + " 1 2 0;", 1, 0);
+                C.bad(changed(word, at, -1) + " 1 2 0;", 1, 0);
+            }
+        }
+        for (String kind : new String[] {"plain", "fat", "miser", "drain", "beggar"}) {
+            for (int at = 0; at < kind.length(); at++) {
+                C.bad("person " + changed(kind, at, 1) + " 1 1;", 1, 7);
+                C.bad("person " + changed(kind, at, -1) + " 1 1;", 1, 7);
+            }
+        }
+    }
+
+    private static String changed(String word, int at, int by) {
+        return word.substring(0, at) + (char) (word.charAt(at) + by) + word.substring(at + 1);
     }
 
     // "blanks (32) may stand anywhere"

@@ -19,6 +19,8 @@ final class TownEdgesTest {
         townForgetsImages();
         townTellsHeatsAndWarmths();
         townForgetsWhatIsGone();
+        townBehindManyTowns();
+        townBehindAFault();
         townLeavesTheSeed();
         faultyTownLeavesAll();
         toldBounds();
@@ -205,6 +207,29 @@ final class TownEdgesTest {
         Check.tell(x, TOWN);
         C.same("larger again", x.person(1, 4) + x.person(1, 5) + x.person(1, 6) + x.owned(1, 1), 0);
         C.same("larger again: it stands", x.person(1, 3), NONE);
+    }
+
+    private static void townBehindManyTowns() {
+        WarmStones x = new WarmStones();
+        int[] sizes = {9, 8, 1, 0, 9, 1, 3, 2, 0, 0, 1};
+        for (int size : sizes) {
+            C.same("STONES", Check.tell(x, "stone 9 9 9;".repeat(size) + "person fat 5 5;".repeat(Math.min(8, size))), size);
+            C.same("PERSONS", x.told(1), Math.min(8, size));
+            C.same("all HEATS and WARMTHS", x.told(10), 9 * size + 5 * Math.min(8, size));
+            x.go(1);
+            C.same("COLD minutes", x.told(9), Math.min(8, size));
+        }
+    }
+
+    private static void townBehindAFault() {
+        WarmStones x = new WarmStones();
+        for (int k = 0; k < 3; k++) {
+            C.same("a fault behind all there can be", Check.tell(x, "stone 9 9 9;".repeat(9) + "person fat 5 5;".repeat(8) + "frost 9 9;fine 9;x"), -11);
+            C.same("STONES", Check.tell(x, "stone 4 4 4;person fat 3 3;"), 1);
+            C.same("PERSONS", x.told(1), 1);
+            C.same("all HEATS and WARMTHS", x.told(10), 7);
+            C.same("told once", Check.tell(x, "frost 9 9;fine 9;"), 0);
+        }
     }
 
     // What begins anew with a town is told; THE SEED is not among it.

@@ -268,9 +268,9 @@ final class TriedEdgesTest {
         WarmStones last = Check.told("frost 99 0;stone 999 2 8;person drain 99 0;person drain 198 0;");
         // First 0: 53, then the other of 99: 23 more. First 1: 103, then nothing is left.
         along(last, 0, 0b11, 1, 103, 1, 0);
-        WarmStones nothing = Check.told("frost 99 0;stone 999 2 0;person drain 200 0;person plain 10 0;");
-        // First 0: 100, then the other, of nothing (not below), takes 12. First 1: 1, then 50.
-        along(nothing, 0, 0b11, 1, 88, 0, 1);
+        WarmStones nothing = Check.told("frost 99 0;stone 999 2 6;person drain 200 0;person plain 10 0;");
+        // First 0: 103, then the other, of nothing (not below: of 1 less it would be 13), takes 12. First 1: 6, then 53.
+        along(nothing, 0, 0b11, 1, 91, 0, 1);
         WarmStones six = Check.told("frost 1 0;stone 999 2 0;" + "person drain 0 0;".repeat(5) + "person drain 300 0;");
         // Whoever has nothing changes nothing; the sixth waits for none of them, or it would have 60 less for each.
         along(six, 0, 0b111111, 60, 150, 5, 0, 1, 2, 3, 4);
@@ -301,6 +301,10 @@ final class TriedEdgesTest {
         along(x, 0, 0b01, 1, 60, 0);
         along(x, 0, 0b10, 1, 59, 1);
         along(x, 0, 0b11, 60, 60, 0, 1);
+        WarmStones each = Check.told("frost 0 0;stone 9 2 0;stone 60 2 0;stone 999 2 0;person drain 200 0;");
+        along(each, 0, 1, 1, 9, 0);
+        along(each, 1, 1, 1, 60, 0);
+        along(each, 2, 1, 1, 100, 0);
     }
 
     // "each as much as leaves its NEED and what the frost takes in m minutes of standing"
