@@ -1,5 +1,6 @@
 import java.io.IOException;
 import java.lang.management.ManagementFactory;
+import java.lang.reflect.Array;
 import java.lang.reflect.Constructor;
 import java.lang.reflect.Field;
 import java.lang.reflect.Method;
@@ -33,6 +34,7 @@ final class FaceTest {
         String code = withoutComments(Files.readString(Path.of("src/main/java/WarmStones.java")));
         words(code);
         lengths(code);
+        room();
         callsMakeNoObjects();
         C.end();
     }
@@ -89,11 +91,14 @@ final class FaceTest {
 
     private static void members() {
         Set<String> open = new HashSet<>(List.of("NONE", "UNKNOWN", "OUTSIDE", "NOT", "FULL"));
+        int fields = 0;
         for (Field f : WarmStones.class.getDeclaredFields()) {
             int how = f.getModifiers();
+            fields += Modifier.isStatic(how) ? 0 : 1;
             C.holds(f.getName() + " is as the face says", open.contains(f.getName()) ? Modifier.isPublic(how) : Modifier.isPrivate(how));
             C.holds(f.getName() + " is no static state", !Modifier.isStatic(how) || Modifier.isFinal(how));
         }
+        C.holds("some twenty fields at most", fields <= 20);
     }
 
     private static void insides() {
@@ -145,6 +150,55 @@ final class FaceTest {
             }
         }
         C.holds("methods were seen", line > 100);
+    }
+
+    // If each of a run's 512 calls made a new object, they would still have room: 600,000 objects, 7.3 million fields and elements.
+    private static void room() {
+        List<Object> found = new ArrayList<>();
+        found.add(new WarmStones());
+        long parts = 0;
+        for (int at = 0; at < found.size(); at++) {
+            Object one = found.get(at);
+            if (one.getClass().isArray()) {
+                parts += Array.getLength(one);
+                for (int k = 0; one instanceof Object[] row && k < row.length; k++) {
+                    add(found, row[k]);
+                }
+            } else {
+                parts += addFields(found, one);
+            }
+        }
+        C.holds("objects and arrays of one: " + found.size(), found.size() * 512 < 600000);
+        C.holds("fields and elements of one: " + parts, parts * 512 < 7300000);
+    }
+
+    private static int addFields(List<Object> found, Object one) {
+        int fields = 0;
+        for (Field f : one.getClass().getDeclaredFields()) {
+            if (!Modifier.isStatic(f.getModifiers())) {
+                fields++;
+                if (!f.getType().isPrimitive()) {
+                    f.setAccessible(true);
+                    try {
+                        add(found, f.get(one));
+                    } catch (IllegalAccessException e) {
+                        C.holds(f.getName() + " can be looked at", false);
+                    }
+                }
+            }
+        }
+        return fields;
+    }
+
+    private static void add(List<Object> found, Object one) {
+        for (Object other : found) {
+            if (other == one) {
+                return;
+            }
+        }
+        if (one != null) {
+            found.add(one);
+        }
     }
 
     private static void everyCall(WarmStones x) {
