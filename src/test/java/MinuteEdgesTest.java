@@ -32,6 +32,8 @@ final class MinuteEdgesTest {
         goBounds();
         goTellsWhoIsCold();
         driftBounds();
+        driftTellsWhoIsCold();
+        manyAreLikeOneByOne();
         ownBounds();
         ownAtMost99999();
         ownUnknown();
@@ -373,10 +375,15 @@ final class MinuteEdgesTest {
 
     // "PERSONS that are COLD behind them (a SET)": behind the last, not on the way.
     private static void goTellsWhoIsCold() {
-        WarmStones x = Check.told("frost 0 0;stone 999 2 999;person plain 0 200;person fat 0 9;" + "person fat 9 9;".repeat(5) + "person fat 8 9;");
+        String town = "frost 0 0;stone 999 2 999;person plain 0 200;person fat 0 9;" + "person fat 9 9;".repeat(5) + "person fat 8 9;";
+        WarmStones x = Check.told(town);
         x.sit(0, 0);
         C.same("behind one", x.go(1), 0b10000011);
         C.same("behind two more: the first is warm", x.go(2), 0b10000010);
+        C.same("its COLD minutes", x.person(0, 4), 1);
+        x = Check.told(town);
+        x.sit(0, 0);
+        C.same("behind three at once: the first was COLD on the way only", x.go(3), 0b10000010);
         C.same("its COLD minutes", x.person(0, 4), 1);
         C.same("nobody", Check.told("stone 9 9 9;").go(1), 0);
     }
@@ -396,6 +403,43 @@ final class MinuteEdgesTest {
         C.same("a minute", x.told(3), 1);
         C.same("drift 999", x.drift(999), 3);
         C.same("999 more", x.told(3), 1000);
+    }
+
+    // drift: "likewise": behind the last, not on the way. By seed 4 nobody gets up in the first four draws.
+    private static void driftTellsWhoIsCold() {
+        WarmStones x = Check.told("frost 0 0;stone 999 2 999;person plain 0 200;person fat 0 9;");
+        x.sit(0, 0);
+        x.seed(4);
+        x.keep(0);
+        C.same("behind one", x.drift(1), 0b11);
+        x.goBack(0);
+        C.same("behind two at once: the first was COLD on the way only", x.drift(2), 0b10);
+        C.same("it sits as it sat", x.person(0, 3), 0);
+        C.same("its COLD minutes", x.person(0, 4), 1);
+        C.same("nobody", Check.told("stone 9 9 9;").drift(1), 0);
+    }
+
+    // "n MINUTES", "n MINUTES BY DRAWS": n at once are like one by one, the draws ahead of each too.
+    private static void manyAreLikeOneByOne() {
+        String town = "frost 4 1;fine 3;stone 90 9 60;stone 500 20 0;person plain 300 200;person fat 80 60;person drain 200 9;";
+        for (int n = 2; n <= 100; n += 7) {
+            WarmStones atOnce = Check.told(town);
+            WarmStones oneByOne = Check.told(town);
+            atOnce.sit(2, 0);
+            oneByOne.sit(2, 0);
+            int went = 0;
+            int drifted = 0;
+            for (int k = 0; k < n; k++) {
+                went = oneByOne.go(1);
+            }
+            C.same("go " + n, atOnce.go(n), went);
+            C.same("behind go " + n, Check.seen(atOnce), Check.seen(oneByOne));
+            for (int k = 0; k < n; k++) {
+                drifted = oneByOne.drift(1);
+            }
+            C.same("drift " + n, atOnce.drift(n), drifted);
+            C.same("behind drift " + n, Check.seen(atOnce), Check.seen(oneByOne));
+        }
     }
 
     // "n minutes more (1 .. 9999)"

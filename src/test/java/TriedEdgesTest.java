@@ -25,6 +25,7 @@ final class TriedEdgesTest {
         passedOthersStand();
         passedFirst();
         passedUpToSize();
+        passedFromNow();
         giftLeavesNeedAndFrost();
         giftWithoutNeed();
         giftOfABeggar();
@@ -305,6 +306,23 @@ final class TriedEdgesTest {
         along(each, 0, 1, 1, 9, 0);
         along(each, 1, 1, 1, 60, 0);
         along(each, 2, 1, 1, 100, 0);
+    }
+
+    // "TRIED from now": HEAT and WARMTH as they are behind a minute, not as they were told.
+    private static void passedFromNow() {
+        WarmStones x = Check.told("frost 8 0;stone 100 10 0;stone 100 10 100;person plain 80 0;person plain 88 0;");
+        x.sit(0, 0);
+        x.go(1);
+        C.same("WARMTH now", x.person(0, 2), 70);
+        C.same("WARMTH of the other", x.person(1, 2), 80);
+        C.same("HEAT now", x.stone(0, 2), 10);
+        C.same("HEAT of the other", x.stone(1, 2), 90);
+        along(x, 0, 0b01, 1, 17, 0);
+        along(x, 1, 0b01, 1, 88, 0);
+        along(x, 0, 0b10, 1, 18, 1);
+        // 0 then 1: 17, then (72 less 17) / 8 more. 1 then 0: 18, then (62 less 18) / 8 more: who sits now stands while it waits.
+        along(x, 0, 0b11, 1, 23, 0, 1);
+        C.same("it sits as it sat", x.person(0, 3), 0);
     }
 
     // "each as much as leaves its NEED and what the frost takes in m minutes of standing"
